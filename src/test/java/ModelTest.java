@@ -58,8 +58,24 @@ public final class ModelTest {
         }
 
         void go() {
+            if (number % 4 == 1) {
+                manyActs();
+                return;
+            }
             if (any(10) > 0) feedText(any(12) == 0 ? brokenText() : text());
             while (left > 0 && wrong < MOST_SHOWN) step();
+        }
+
+        /** More acts than are kept, and then more undone than there are. */
+        private void manyActs() {
+            feedText(text());
+            while (left > 0 && wrong < MOST_SHOWN) {
+                for (int i = any(50); i > 0 && left > 0; i--) actStep(any(11) == 0 ? 9 : any(7));
+                for (int i = any(40); i > 0 && left > 0; i--) {
+                    actStep(9);
+                    if (i % 4 == 0) askStep();
+                }
+            }
         }
 
         private void same(String call, int want, int got) {
@@ -124,7 +140,7 @@ public final class ModelTest {
             } else if (turn < 20) {
                 rowStep();
             } else if (turn < 45) {
-                actStep();
+                actStep(any(12));
             } else if (turn < 80) {
                 foretoldStep();
             } else {
@@ -188,9 +204,9 @@ public final class ModelTest {
             same("ages(" + r + "," + row + "," + i + "," + n + ")", m.ages(r, row, i, n), x.ages(r, row, i, n));
         }
 
-        private void actStep() {
+        private void actStep(int which) {
             int r = r(), l = l(), k = about(1);
-            switch (any(12)) {
+            switch (which) {
                 case 0: case 1: case 2:
                     same("read(" + r + "," + l + ")", m.aloud(r, 0, l), x.read(r, l));
                     break;

@@ -461,11 +461,45 @@ public final class PromiseTests {
         due("acts by which nothing becomes another, too", 2, y.undo());
         due("HEARD", 1, y.reader(1, 5));
         due("twice", 2, y.letter(0, 2));
+        manyUndone();
         AgingLetters z = with("o1;");
         z.day();
         due("a DAY of none", 0, z.undo());
         due("refusals are no acts", BAD, z.cross(0, 1));
         due("nothing", STATE, z.undo());
+    }
+
+    /** Acts of all sorts, one after the other, 40 of them, of which the last 24 are undone in turn. */
+    private static void manyUndone() {
+        AgingLetters x = with("o999;p40,5;v40,3;s40,9;r20,999;r30,999;");
+        int[] seen = new int[41];
+        for (int act = 0; act <= 40; act++) {
+            seen[act] = sum(x);
+            switch (act % 5) {
+                case 0: x.read(0, 2); break;
+                case 1: x.cross(act % 2, 1 + act % 3); break;
+                case 2: x.aloud(1, 1, 1); break;
+                case 3: x.day(); break;
+                default: x.aloud(0, 0, 0);
+            }
+        }
+        for (int act = 40; act > 16; act--) {
+            due("kept", act - 17, x.undo());
+            due("ahead of act " + act, seen[act], sum(x));
+        }
+        due("no more", STATE, x.undo());
+    }
+
+    /** A number in which most of an office shows. */
+    private static int sum(AgingLetters x) {
+        int sum = x.count(3);
+        for (int r = 0; r < 2; r++) {
+            for (int what = 0; what < 6; what++) sum = sum * 31 + x.reader(r, what);
+        }
+        for (int l = 0; l < 3; l++) {
+            for (int what = 0; what < 4; what++) sum = sum * 31 + x.letter(l, what);
+        }
+        return sum;
     }
 
     private static void reader() {

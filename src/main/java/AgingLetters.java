@@ -369,7 +369,7 @@ public final class AgingLetters {
         void make(int row, int lane, int n) {
             lanes[row] = lane;
             sizes[row] = n;
-            Arrays.fill(items, row * MOST_ITEMS, row * MOST_ITEMS + n, 0);
+            for (int i = 0; i < n; i++) items[row * MOST_ITEMS + i] = 0;
         }
 
         int put(int row, int i, int v) {
